@@ -558,7 +558,7 @@ public final class GiftTable {
         return answer;
     }
 
-    /** Accepts a call that changed what answers are worked out from: what was worked out for older versions is stale. */
+    /** Accepts a call after which what was worked out for the older version is stale. */
     private int altered(int answer) {
         version++;
         return accept(answer);
@@ -1201,7 +1201,10 @@ public final class GiftTable {
 
         /** The number of the heap with one gift more. */
         int after(int heap, int thing) {
-            return within(heap, 0, MOST - 1) && within(thing, 0, MOST_THINGS - 1) ? next[heap * MOST_THINGS + thing] : 0;
+            if (!within(heap, 0, MOST - 1) || !within(thing, 0, MOST_THINGS - 1)) {
+                return 0;
+            }
+            return next[heap * MOST_THINGS + thing];
         }
 
         /** Fills the table for heaps of at most so many gifts, if it is not that of this version. */
@@ -1811,7 +1814,7 @@ public final class GiftTable {
             return product;
         }
 
-        /** Tries all tenths of a THING and those behind it, greater ones first, so that of alike rows the first wins. */
+        /** Tries all tenths of a THING and of those behind it, greater ones first: of alike rows the first wins. */
         private void spread(int thing, int left) {
             for (int tenths = left; tenths >= 0; tenths--) {
                 row[thing] = tenths;

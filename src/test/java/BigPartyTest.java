@@ -52,6 +52,9 @@ public final class BigPartyTest {
         for (int k = 0; k < 4; k++) {
             same(seed + ": none(" + k + ")", x.none(k), p.none(k));
         }
+        x.coin(49);
+        p.coin(49);
+        same(seed + ": mean once more", x.mean(0), p.mean(0));
         int[] best = together(p, NOBODY, 0);
         same(seed + ": together(0)", x.together(0), best[0]);
         same(seed + ": together(1)", x.together(1), best[1]);

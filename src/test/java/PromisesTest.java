@@ -548,7 +548,10 @@ public final class PromisesTest {
         due("brackets", told("likes 1;likes 2 if (1=1 or 1=1) and 1=2"), 1);
         due("not binds the plain", told("likes 1;likes 2 if not 1=2 and 1=1"), 2);
         due("less", told("likes 1;likes 2 if 1<1"), 1);
+        due("less", told("likes 1;likes 2 if 1<2"), 2);
         due("more", told("likes 1;likes 2 if 2>1"), 2);
+        due("more", told("likes 1;likes 2 if 1>1"), 1);
+        due("same", told("likes 1;likes 2 if 1=2"), 1);
 
         GiftTable x = new GiftTable();
         x.thing(2, 50, 5, 20);
@@ -949,6 +952,7 @@ public final class PromisesTest {
         due("no more", x.change(2, 0, 0, 0, 70, 1), -1);
         due("no more", x.change(2, 0, 0, 0, 100, 2), -1);
         due("nothing spare", x.change(1, 0, 0, 0, 0, 0), 0);
+        due("not spare, though the other is worth more", x.change(0, 1, 0, 0, 0, 0), 0);
         due("nothing lacks", x.change(2, 1, 1, 0, 0, 1), -1);
         due("the cheaper one given", x.change(2, 2, 0, 0, 50, 1), 1);
         due("gain", x.change(2, 2, 0, 0, 50, 0), 15);
