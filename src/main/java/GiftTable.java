@@ -1199,12 +1199,10 @@ public final class GiftTable {
             }
         }
 
-        /** The number of the heap with one gift more. */
-        int after(int heap, int thing) {
-            if (!within(heap, 0, MOST - 1) || !within(thing, 0, MOST_THINGS - 1)) {
-                return 0;
-            }
-            return next[heap * MOST_THINGS + thing];
+        /** The number of the heap that a choice makes of a heap: COIN leaves it as it is. */
+        int after(int heap, int choice) {
+            int cell = heap * MOST_THINGS + choice;
+            return choice == COIN || cell < 0 || cell >= next.length ? heap : next[cell];
         }
 
         /** Fills the table for heaps of at most so many gifts, if it is not that of this version. */
@@ -1310,6 +1308,10 @@ public final class GiftTable {
             if (fixed[giver] != NONE) {
                 choices[giver] = 1 << fixed[giver];
             }
+        }
+
+        int moneyBy(int giver, int choice) {
+            return choice == COIN ? money[giver] : 0;
         }
 
         boolean canBring(int giver, int choice) {
@@ -1644,26 +1646,26 @@ public final class GiftTable {
         }
 
         private int valueAfter(Party party, Heaps heaps, int giver, int heap, int choice) {
-            int layer = start[giver + 1];
-            return choice == COIN ? best[layer + heap] + party.money[giver] : best[layer + heaps.after(heap, choice)];
+            return best[start[giver + 1] + heaps.after(heap, choice)] + party.moneyBy(giver, choice);
         }
 
         /** Goes up, so that ways still tells those of the next layer for this heap and all greater ones. */
         private void workLayer(Party party, Heaps heaps, int giver) {
+            int layer = start[giver + 1];
             for (int heap = 0; heap < heaps.upTo[giver]; heap++) {
                 int top = NONE;
                 int found = 0;
                 for (int choice = 0; choice < CHOICES; choice++) {
-                    if (!party.canBring(giver, choice)) {
+                    if ((party.choices[giver] >> choice & 1) == 0) {
                         continue;
                     }
-                    int value = valueAfter(party, heaps, giver, heap, choice);
-                    int more = ways[choice == COIN ? heap : heaps.after(heap, choice)];
+                    int to = heaps.after(heap, choice);
+                    int value = best[layer + to] + party.moneyBy(giver, choice);
                     if (value > top) {
                         top = value;
-                        found = more;
+                        found = ways[to];
                     } else if (value == top) {
-                        found += more;
+                        found += ways[to];
                     }
                 }
                 best[start[giver] + heap] = top;
@@ -1680,7 +1682,7 @@ public final class GiftTable {
                     choice++;
                 }
                 firsts[giver] = choice;
-                heap = choice == COIN ? heap : heaps.after(heap, choice);
+                heap = heaps.after(heap, choice);
             }
             doubled = heaps.doubles[heap];
             missing = heaps.misses[heap];
@@ -1701,10 +1703,8 @@ public final class GiftTable {
             for (int heap = 0; heap < heaps.upTo[giver]; heap++) {
                 int top = NONE;
                 for (int choice = 0; choice < CHOICES; choice++) {
-                    if (party.canBring(giver, choice)) {
-                        int value = choice == COIN ? trial[heap] + party.money[giver]
-                                : trial[heaps.after(heap, choice)];
-                        top = Math.max(top, value);
+                    if ((party.choices[giver] >> choice & 1) == 1) {
+                        top = Math.max(top, trial[heaps.after(heap, choice)] + party.moneyBy(giver, choice));
                     }
                 }
                 trial[heap] = top;
@@ -1958,11 +1958,8 @@ public final class GiftTable {
             int money = 0;
             for (int giver = 0; giver < party.givers; giver++) {
                 int choice = choiceBy(party, giver, bounds, heaps.things);
-                if (choice == COIN) {
-                    money += party.money[giver];
-                } else {
-                    brought = heaps.after(brought, choice);
-                }
+                brought = heaps.after(brought, choice);
+                money += party.moneyBy(giver, choice);
             }
             if (heaps.values[brought] + money > ruleValue) {
                 ruleValue = heaps.values[brought] + money;
