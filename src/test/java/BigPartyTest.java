@@ -18,6 +18,8 @@ public final class BigPartyTest {
         for (int seed = 0; seed < 12; seed++) {
             party(seed);
         }
+        exact("likes 1000;coin 1000");
+        exact("likes 999-thing*7-letter*3;coin 991-letter");
         System.out.println(wrong == 0 ? "big parties: all as due" : wrong + " answers are not as due");
         if (wrong != 0) {
             System.exit(1);
@@ -68,6 +70,27 @@ public final class BigPartyTest {
         first(seed, x, p, best[0]);
         same(seed + ": blind(8, -1)", x.blind(8, -1), p.blind(8, -1));
         same(seed + ": rule(-1)", x.rule(-1), p.rule(-1));
+    }
+
+    /** Whatever they choose the VALUE is 120, so a last bit that is lost in the sums makes the MEAN less. */
+    private static void exact(String way) {
+        GiftTable x = new GiftTable();
+        Plain p = new Plain();
+        for (int k = 0; k < 4; k++) {
+            x.thing(0, 0, 10, 1);
+            p.thing(0, 0, 10, 1);
+        }
+        for (int k = 0; k < 12; k++) {
+            x.guest(k, 0, 20, 0);
+            p.guest(k, 0, 20, 0);
+        }
+        text(x, p, way);
+        same("mean(0) by " + way, x.mean(0), 12000);
+        same("mean(1) by " + way, x.mean(1), p.mean(1));
+        same("none(3) by " + way, x.none(3), p.none(3));
+        x.coin(0);
+        p.coin(0);
+        same("mean(0) without money by " + way, x.mean(0), p.mean(0));
     }
 
     private static void text(GiftTable x, Plain p, String s) {

@@ -96,6 +96,7 @@ public final class PromisesTest {
         due("new rest rounds", x.rest(1), 1);
         due("new letters", x.letters(0, 0, 0, 0), 0);
         due("new loss", x.loss(), 0);
+        due("new together", x.together(1), 1);
         due("new heap", x.heap(0, 0, 0, 0, 2), 0);
         due("new back", x.back(0), -2);
         for (int sort = 0; sort < 6; sort++) {
@@ -544,6 +545,7 @@ public final class PromisesTest {
         due("if", told("likes 1;likes 2 if age=40"), 2);
         due("not", told("likes 1;likes 2 if not age=40"), 1);
         due("not not", told("likes 1;likes 2 if not not age=40"), 2);
+        due("not of not", told("likes 1;likes 2 if not (not 1=1)"), 2);
         due("and ahead of or", told("likes 1;likes 2 if 1=1 or 1=1 and 1=2"), 2);
         due("brackets", told("likes 1;likes 2 if (1=1 or 1=1) and 1=2"), 1);
         due("not binds the plain", told("likes 1;likes 2 if not 1=2 and 1=1"), 2);
@@ -717,6 +719,8 @@ public final class PromisesTest {
         }
         due("5 to the 12th", all.together(1), 244140625);
         due("first of all", all.brings(11), 0);
+        all.wed(0);
+        due("the last guest", all.brought(11), 4);
     }
 
     private static void losses() {
@@ -800,6 +804,13 @@ public final class PromisesTest {
         due("coin is best", x.rule(-1), 120);
         due("the first of alike", x.rule(0), 0);
         due("the first of alike", x.rule(1), 0);
+        x.coin(50);
+        due("bounds again", x.rule(0), 4);
+        x.coin(0);
+        x.put(0, 1, 0);
+        x.put(1, 1, 0);
+        due("nothing is worth anything", x.rule(-1), 0);
+        due("the first of alike", x.rule(0), 0);
     }
 
     private static void rests() {
@@ -1055,6 +1066,19 @@ public final class PromisesTest {
         x.wed(0);
         x.back(0);
         due("late and wedding are of now", x.brought(2), 4);
+
+        GiftTable y = new GiftTable();
+        y.guest(0, 0, 0, 0);
+        y.image(0);
+        due("first text", read(y, "coin 7"), 0);
+        y.way(0, 0);
+        y.image(1);
+        y.back(0);
+        due("first text again", read(y, "coin 8"), 0);
+        due("way", y.way(0, 0), -1);
+        due("of now", y.weight(0, 4, 0), 8);
+        y.back(1);
+        due("of then", y.weight(0, 4, 0), 7);
     }
 
     private static void countsAndStatus() {
