@@ -172,7 +172,7 @@ public final class GiftTable {
             state.part(guest);
             return altered(0);
         }
-        if (guest == other || state.with[guest] != NONE || state.with[other] != NONE) {
+        if (guest == other || state.isWithThird(guest, other) || state.isWithThird(other, guest)) {
             return refuse(CANNOT_BE);
         }
         state.with[guest] = other;
@@ -689,6 +689,10 @@ public final class GiftTable {
                 with[other] = NONE;
                 with[guest] = NONE;
             }
+        }
+
+        boolean isWithThird(int guest, int other) {
+            return with[guest] != NONE && with[guest] != other;
         }
 
         boolean isGiver(int guest) {

@@ -236,7 +236,7 @@ final class Plain {
             return yes(0);
         }
         Guest o = w.guests.get(other);
-        if (guest == other || g.with != NONE || o.with != NONE) {
+        if (guest == other || g.with != NONE && g.with != other || o.with != NONE && o.with != guest) {
             return no(-3);
         }
         g.with = other;

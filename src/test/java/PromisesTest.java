@@ -285,7 +285,14 @@ public final class PromisesTest {
         due("pays", x.of(1, 8), 51 + 52);
         due("pays", x.of(2, 8), 0);
         due("givers", x.count(3), 3);
+        due("the same two again", x.pair(2, 1), 0);
+        due("the same two, the other way round", x.pair(1, 2), 0);
+        due("the same two: status", x.status(), 0);
+        due("the same two: with", x.of(1, 6), 2);
+        due("the same two: with", x.of(2, 6), 1);
+        due("the same two: givers", x.count(3), 3);
         due("same one", x.pair(3, 3), -3);
+        due("same one, with another", x.pair(2, 2), -3);
         due("with another", x.pair(0, 2), -3);
         due("with another", x.pair(1, 3), -3);
         due("status", x.status(), -3);
@@ -299,7 +306,7 @@ public final class PromisesTest {
         due("with nobody", x.of(2, 6), -1);
         due("with nobody still", x.pair(0, -1), 0);
         due("free again", x.pair(1, 3), 0);
-        due("count(7)", x.count(7), 3);
+        due("count(7)", x.count(7), 4);
         // The higher one of two brings nothing and has no say.
         due("brings", x.brings(3), -1);
         due("find", x.find(3), -1);
