@@ -868,7 +868,7 @@ public final class PromisesTest {
         due("wed -1", x.wed(-1), -1);
         due("wed 1000001", x.wed(1000001), -1);
         due("none yet", x.had(0), -1);
-        // s = 12345 and 617224: modulo 3 both 0 and 1, and below 1 is the thing.
+        // s = 12345 and 628841: modulo 3 they are 0 and 2, and below 1 is the thing.
         due("12345 modulo 3", 12345 % 3, 0);
         due("wed", x.wed(0), 100);
         due("brought", x.brought(0), 0);
