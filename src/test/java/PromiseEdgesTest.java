@@ -473,7 +473,8 @@ public final class PromiseEdgesTest extends Sentences {
         says(37, words, three, "tape:likes 2+struck-thing", "text() -> 0", "way(0, 0)", times(4, "sees(0, 1)"), "sure(0) -> 0",
             "sure(1) -> 4", "pair(0, 1)", "pair(2, 3)", "sure(1) -> 2");
         says(37, words, "thing(1, 1, 1, 1)", "guest(0, 0, 1, 0)", "sees(0, 1)", "tape:likes struck", "text() -> 0", "way(0, 0)",
-            "sure(0) -> -1", "tape:likes 1-struck", "text() -> 1", "way(0, 1)", "sure(0) -> 0", "sure(1) -> 1");
+            "sure(0) -> -1", "tape:likes 1-struck", "text() -> 1", "way(0, 1)", "sure(0) -> 0", "sure(1) -> 1",
+            "tape:likes 0-struck", "text() -> 2", "way(0, 2)", "sure(0) -> -1", "sure(1) -> -1");
     }
 
     private static void imageAndBack() {

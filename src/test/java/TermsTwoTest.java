@@ -455,7 +455,7 @@ public final class TermsTwoTest extends Sentences {
             "put(1, 3, 10)", "weight(0, 4, 0) -> 0", "weight(0, 1, 0) -> 1", "none(1) -> 0");
         says(19, all, party, "tape:likes 5;coin 1", "text() -> 0", "way(0, 0)", "weight(0, 4, 0) -> 1", "none(0) -> 166666");
         says(19, all, party, "sees(0, 1)", "tape:likes struck", "text() -> 0", "way(0, 0)", "weight(0, 4, 0) -> 1",
-            "weight(0, 0, 3) -> 3");
+            "weight(0, 0, 3) -> 3", "tape:likes 0-struck", "text() -> 1", "way(0, 1)", "weight(0, 4, 0) -> 1");
         says(19, all, party, "tape:likes 1/0;coin 1/0", "text() -> 0", "way(0, 0)", "weight(0, 4, 0) -> 1");
     }
 
