@@ -1937,7 +1937,7 @@ public final class GiftTable {
             for (int bound = 1; bound < MOST_BOUNDS; bound++) {
                 boolean had = false;
                 for (int giver = 0; giver < party.givers; giver++) {
-                    had |= party.letter[giver] == bound - 1;
+                    had = had || party.letter[giver] == bound - 1;
                 }
                 if (had) {
                     candidates[candidateCount] = bound;
@@ -2026,7 +2026,7 @@ public final class GiftTable {
                 }
                 lay(party, giver, top, 1);
                 restBrings[giver] = top;
-                moved |= top != had;
+                moved = moved || top != had;
             }
             return moved;
         }

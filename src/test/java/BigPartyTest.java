@@ -1,3 +1,4 @@
+import java.util.Arrays;
 import java.util.HashMap;
 import java.util.List;
 import java.util.Map;
@@ -47,6 +48,11 @@ public final class BigPartyTest {
             x.guest(letter, age, purse, 0);
             p.guest(letter, age, purse, 0);
         }
+        for (int k = 0; k < seed % 4; k++) {
+            int a = r.nextInt(12), b = r.nextInt(12), t = r.nextInt(4), g = r.nextInt(12);
+            same(seed + ": pair", x.pair(a, b), p.pair(a, b));
+            same(seed + ": always", x.always(g, t), p.always(g, t));
+        }
         text(x, p, seed % 2 == 0 ? "likes 1000-thing*3-letter;coin 997-age" : "likes 1000;coin 1000");
         for (int k = 0; k < 3; k++) {
             same(seed + ": mean(" + k + ")", x.mean(k), p.mean(k));
@@ -57,14 +63,18 @@ public final class BigPartyTest {
         x.coin(49);
         p.coin(49);
         same(seed + ": mean once more", x.mean(0), p.mean(0));
-        int[] best = together(p, NOBODY, 0);
+        int[] held = new int[12];
+        Arrays.fill(held, FREE);
+        int[] best = together(p, held);
         same(seed + ": together(0)", x.together(0), best[0]);
         same(seed + ": together(1)", x.together(1), best[1]);
         same(seed + ": loss()", x.loss(), 100 * best[0] - p.mean(0));
-        for (int g = 0; g < 12; g++) {
+        for (int g : p.givers()) {
             for (int c = 0; c < 5; c++) {
-                int less = p.can(g).contains(c) ? best[0] - together(p, g, c)[0] : -1;
+                held[g] = c;
+                int less = p.can(g).contains(c) ? best[0] - together(p, held)[0] : -1;
                 same(seed + ": dear(" + g + ", " + c + ")", x.dear(g, c), less);
+                held[g] = FREE;
             }
         }
         first(seed, x, p, best[0]);
@@ -106,16 +116,16 @@ public final class BigPartyTest {
         same("way", x.way(0, 0), p.way(0, 0));
     }
 
-    private static final int NOBODY = -1;
+    private static final int FREE = -1;
 
-    /** The greatest VALUE and its ways, one GIVER held to a choice: heaps with all the MONEY each can come with. */
-    private static int[] together(Plain p, int held, int choice) {
+    /** The greatest VALUE and its ways, some GIVERS held to a choice: heaps with all the MONEY each can come with. */
+    private static int[] together(Plain p, int[] held) {
         Map<List<Integer>, Integer> ways = new HashMap<>();
         ways.put(List.of(0, 0, 0, 0, 0), 1);
         for (int g : p.givers()) {
             Map<List<Integer>, Integer> next = new HashMap<>();
             for (Map.Entry<List<Integer>, Integer> e : ways.entrySet()) {
-                for (int c : g == held ? List.of(choice) : p.can(g)) {
+                for (int c : held[g] != FREE ? List.of(held[g]) : p.can(g)) {
                     Integer[] more = e.getKey().toArray(new Integer[0]);
                     more[c] += c == 4 ? p.money(g) : 1;
                     next.merge(List.of(more), e.getValue(), Integer::sum);
@@ -138,16 +148,24 @@ public final class BigPartyTest {
         return best;
     }
 
-    /** What the FIRST brings has the greatest VALUE, and DOUBLED and MISSING are that heap's. */
+    /** GIVER by GIVER the first choice by which, and by those ahead, the greatest VALUE can still come. */
     private static void first(int seed, GiftTable x, Plain p, int best) {
+        int[] held = new int[12];
+        Arrays.fill(held, FREE);
         int[] heap = new int[4];
         int money = 0;
-        for (int g = 0; g < 12; g++) {
-            int c = x.brings(g);
-            if (c == 4) {
+        for (int g : p.givers()) {
+            for (int c : p.can(g)) {
+                held[g] = c;
+                if (together(p, held)[0] == best) {
+                    break;
+                }
+            }
+            same(seed + ": brings(" + g + ")", x.brings(g), held[g]);
+            if (held[g] == 4) {
                 money += p.money(g);
             } else {
-                heap[c]++;
+                heap[held[g]]++;
             }
         }
         int[] worth = p.weigh(heap, money);

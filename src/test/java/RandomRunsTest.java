@@ -2,14 +2,18 @@ import java.util.ArrayList;
 import java.util.List;
 import java.util.Random;
 
-/** Runs of calls drawn by fixed seeds, asked of GiftTable and of Plain alike. */
+/** Runs of as many calls as an object is used for, drawn by fixed seeds, asked of GiftTable and of Plain alike. */
 public final class RandomRunsTest {
+    private static final int MOST_CALLS = 512;
+    /** Twenty times feed(), twice end(), text(), fault(), status(). */
+    private static final int MOST_STEP = 25;
     private static int wrong = 0;
     private final Random random;
     private final GiftTable x = new GiftTable();
     private final Plain p = new Plain();
     private final List<String> run = new ArrayList<>();
     private final int mostGuests;
+    private int calls;
 
     private RandomRunsTest(long seed, int mostGuests) {
         random = new Random(seed);
@@ -22,7 +26,7 @@ public final class RandomRunsTest {
         for (long seed = from; seed < from + runs && wrong < 5; seed++) {
             RandomRunsTest t = new RandomRunsTest(seed, seed % 10 == 9 ? 12 : 5);
             t.build();
-            for (int k = 0; k < 120 && wrong < 5; k++) {
+            while (t.calls <= MOST_CALLS - MOST_STEP && wrong < 5) {
                 t.step();
             }
         }
@@ -33,6 +37,7 @@ public final class RandomRunsTest {
     }
 
     private void same(String call, int got, int want) {
+        calls++;
         run.add(call + " = " + got);
         if (got != want) {
             wrong++;
